@@ -376,7 +376,8 @@ public final class PromisesTest {
         put(x, 1, 15, 49);
         x.build(15, 4, 49);
         x.build(7, 4, 0);
-        due("heard", x.now(1), 1 << 3 | 1 << 15 | 1 << 7);
+        x.build(0, 4, 0);
+        due("heard", x.now(1), 1 << 3 | 1 << 15 | 1 << 7 | 1);
         due("weight", x.now(2), 99);
         x.build(2, 1, 2);
         x.build(15, 0, 7);
@@ -420,6 +421,10 @@ public final class PromisesTest {
         due("other at the harbour", x.of(3, 1), 15);
         due("other weight at the harbour", x.of(3, 2), 1);
         due("whispers", x.count(1), 4);
+        x.change(0, 1, 15);
+        due("merge(15) with the first", x.merge(15), 3);
+        due("weight of the first", x.of(0, 2), 7 + 31 + 1);
+        due("weight of the second", x.of(2, 2), 1);
     }
 
     private static void ahead() {
@@ -618,6 +623,17 @@ public final class PromisesTest {
         due("a slander is faster when heavy", x.weightFor(0, 15, 1), 400);
         due("nothing changed", x.of(0, 2), 7);
         due("n of 40", x.weightFor(0, 15, 40), 10);
+        x.change(1, 1, 13);
+        due("the other comes, too", x.weightFor(0, 15, 40), 10);
+        x.change(1, 2, 10);
+        due("the other comes, lighter", x.weightFor(0, 15, 40), 20);
+        x.change(0, 0, 3);
+        x.change(0, 1, 5);
+        x.build(15, 4, 99);
+        due("the heaviest alone is fast enough", x.weightFor(0, 15, 1), 900);
+        x.change(0, 1, 4);
+        due("none is", x.weightFor(0, 15, 1), NONE);
+        x.change(0, 1, 5);
         due("n of 41", x.weightFor(0, 15, 41), BEYOND);
         due("n of -1", x.weightFor(0, 15, -1), BEYOND);
         due("corner 16", x.weightFor(0, 16, 0), BEYOND);
@@ -650,12 +666,24 @@ public final class PromisesTest {
         due("beyond sanding costs", x.costs(15, 23, 20), NONE);
         due("just so much", x.sand(15, 24, 20), 64);
         due("now", x.sand(15, 0, 0), 0);
+        due("now it costs", x.costs(15, 0, 0), 0);
+        due("now none", x.sand(8, 9, 0), NONE);
         due("nothing changed", x.count(4), 0);
         int[][] bad = {{16, 0, 0}, {-1, 0, 0}, {0, -1, 0}, {0, 10000, 0}, {0, 0, -1}, {0, 0, 41}};
         for (int[] b : bad) {
             due("sand " + b[0] + " " + b[1] + " " + b[2], x.sand(b[0], b[1], b[2]), BEYOND);
             due("costs " + b[0] + " " + b[1] + " " + b[2], x.costs(b[0], b[1], b[2]), BEYOND);
         }
+        x = fresh();
+        put(x, 5, 0, 10);
+        x.build(0, 3, 9);
+        for (int c = 1; c < 8; c++) {
+            x.build(c, 3, 20);
+        }
+        due("a secret at 0", x.sand(15, 9, 40), 1);
+        due("a secret at 0 costs", x.costs(15, 9, 40), 9);
+        x.build(0, 2, 9);
+        due("sand is there", x.costs(15, 9, 40), 0);
         due("sand(0, 9999, 40)", x.sand(0, 9999, 40), 0);
         due("costs(0, 9999, 40)", x.costs(0, 9999, 40), 0);
     }
@@ -664,6 +692,7 @@ public final class PromisesTest {
         part = "26 aunt";
         DownhillWhispers x = fresh();
         due("none says", x.aunt(40), 0);
+        due("none says, now", x.aunt(0), 0);
         put(x, 1, 11, 10);
         due("aunt(1)", x.aunt(1), 0);
         due("aunt(2): at 12, so that it is at 14 then", x.aunt(2), 12);
@@ -919,6 +948,18 @@ public final class PromisesTest {
         fault("frost;\tfrost", 6);
         fault("frost\u00e9", 5);
         fault("frost,thaw", 5);
+        fault("frost\0", 5);
+        fault("\0", 0);
+        fault("frostz", 0);
+        fault("frostaz", 0);
+        fault("frost`", 5);
+        fault("frost{", 5);
+        fault("aunts 9/", 7);
+        fault("aunts 9:", 7);
+        fault("whisper weight x", 15);
+        fault("corner 3 ears x", 14);
+        fault("corner x", 7);
+        fault("aunts x", 6);
         fault("whispers", 0);
         fault("whisper 3", 8);
         fault("whisper at", 10);
@@ -1226,13 +1267,15 @@ public final class PromisesTest {
         due("weight", x.count(3), 29);
         x.build(3, 2, 9);
         x.build(15, 2, 4);
-        due("sand", x.count(4), 13);
+        x.build(0, 2, 2);
+        due("sand", x.count(4), 15);
         x.feed(1, 3);
         due("tape", x.count(5), 3);
         x.seed(-1000003);
         due("z", x.count(6), -1000003);
         x.hold(9, 2);
-        due("spots", x.count(7), 1);
+        x.hold(0, 2);
+        due("spots", x.count(7), 2);
         due("count(-1)", x.count(-1), BEYOND);
         due("count(8)", x.count(8), BEYOND);
         due("status(2)", x.status(2), 0);
