@@ -1160,7 +1160,8 @@ public final class DownhillWhispers {
         }
 
         boolean hasNumbers(int from, int n) {
-            return from >= 0 && n >= 0 && from <= length && n <= length - from;
+            int has = Math.min(length, numbers.length);
+            return from >= 0 && n >= 0 && from <= has && n <= has - from;
         }
     }
 
