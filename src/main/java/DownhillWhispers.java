@@ -523,7 +523,8 @@ public final class DownhillWhispers {
         }
         // Powers of a fraction in lowest terms are in lowest terms, too.
         int tenths = what == 0 ? 10 - m : 10;
-        int base = tenths / commonWithTen(10 - m);
+        int common = commonWithTen(10 - m);
+        int base = common > 1 ? tenths / common : tenths;
         long power = 1;
         for (int i = 0; i < n; i++) {
             power *= base;

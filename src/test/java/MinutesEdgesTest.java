@@ -74,6 +74,7 @@ public final class MinutesEdgesTest extends Edges {
             x.frost(1);
             due("frosts(21), BEYOND first", x.frosts(21), BEYOND);
             due("frosts(20)", x.frosts(20), STATE);
+            due("status(4)", x.status(4), 1);
             due("z as it was", x.count(6), 1);
             due("frost as it was", x.now(3), 1);
             due("minute as it was", x.now(0), 99980);

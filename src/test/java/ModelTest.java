@@ -1056,8 +1056,9 @@ public final class ModelTest {
                 often.add(parts);
             }
         }
+        // With what tell, prepare and everything call, no object is called more than 512 times.
         int made = 0;
-        while (made < 480 && wrong == 0) {
+        while (made < 330 && wrong == 0) {
             String[] call = often.get(RANDOM.nextInt(often.size()));
             int[] numbers = numbersFor(call[0], call);
             if (RANDOM.nextInt(30) == 0) {
@@ -1121,7 +1122,7 @@ public final class ModelTest {
     }
 
     public static void main(String[] args) throws Exception {
-        int runs = args.length > 0 ? Integer.parseInt(args[0]) : 400;
+        int runs = args.length > 0 ? Integer.parseInt(args[0]) : 600;
         for (int i = 0; i < runs && wrong == 0; i++) {
             run();
         }

@@ -173,6 +173,16 @@ public final class PlacesEdgesTest extends Edges {
             x.change(1, WEIGHT, 49);
             due("49, and it is elsewhere", x.weightFor(0, 3, 0), NONE);
         });
+        test("23 weightFor: what the others are LOUD there behind n MINUTES, not now", x -> {
+            put(x, WHISPER, 10, 700);
+            put(x, WHISPER, 13, 9);
+            put(x, LIE, 15, 30);
+            due("behind 5", x.weightFor(0, 15, 5), 50 - 11 - 30 - 5);
+            x.change(1, AT, 9);
+            due("behind 5, the other isn't there", x.weightFor(0, 15, 5), 50 - 30 - 5);
+            x.change(1, AT, 10);
+            due("behind 1, the other has left 10", x.weightFor(0, 10, 1), NONE);
+        });
         test("23 weightFor: with what it gathers by then", x -> {
             put(x, WHISPER, 0, 700);
             due("behind 15", x.weightFor(0, 15, 15), 35);
@@ -372,6 +382,10 @@ public final class PlacesEdgesTest extends Edges {
             x.aunts(65535);
             put(x, FIB, 0, 9);
             due("aunt(14)", x.aunt(14), 0);
+            due("aunt(40)", x.aunt(40), 0);
+        });
+        test("26 aunt: where one is already, one more may be the least", x -> {
+            x.aunts(1);
             due("aunt(40)", x.aunt(40), 0);
         });
         test("26 aunt: nothing changes", x -> changesNothing(0, y -> y.aunt(40)));

@@ -80,7 +80,6 @@ public final class PromisesTest {
         fitsAndSaid();
         dearestAndRents();
         frosts();
-        lastMinutes();
         odds();
         seed();
         feedAndWipe();
@@ -224,12 +223,12 @@ public final class PromisesTest {
 
     private static void speeds() {
         part = "speeds";
-        DownhillWhispers x = fresh();
-        put(x, 0, 0, 250);
-        x.build(0, 1, 15);
         int[] steeps = {0, 9, 10, 19, 20, 29, 30, 40, 99};
         int[] plain = {1, 1, 2, 2, 3, 3, 4, 4, 4};
         for (int i = 0; i < steeps.length; i++) {
+            DownhillWhispers x = fresh();
+            put(x, 0, 0, 250);
+            x.build(0, 1, 15);
             x.build(0, 0, steeps[i]);
             for (int f = 0; f < 2; f++) {
                 x.frost(f);
@@ -247,9 +246,11 @@ public final class PromisesTest {
                 }
             }
         }
-        x.frost(0);
+        DownhillWhispers x = fresh();
+        put(x, 5, 0, 250);
+        x.build(0, 0, 99);
+        x.build(0, 1, 15);
         x.build(0, 2, 1);
-        x.change(0, 0, 5);
         due("secret, sand 1", x.of(0, 3), 0);
         x.change(0, 0, 3);
         x.change(0, 2, 99);
@@ -803,30 +804,6 @@ public final class PromisesTest {
         due("minute", x.now(0), 27);
         x.build(15, 4, 76);
         due("none heard", x.frosts(1), 0);
-    }
-
-    /** Far beyond the 512th call: no promise reaches it, but the words tell it. */
-    private static void lastMinutes() {
-        part = "9, 31 the last minutes";
-        DownhillWhispers x = fresh();
-        for (int i = 0; i < 1666; i++) {
-            x.go(60);
-        }
-        x.go(19);
-        due("go above 99999", x.go(21), STATE);
-        due("frosts above 99999", x.frosts(21), BEYOND);
-        due("minute as it was", x.now(0), 99979);
-        due("go(1)", x.go(1), 0);
-        due("frosts above 99999", x.frosts(20), STATE);
-        due("z as it was", x.count(6), 1);
-        due("frosts(19)", x.frosts(19), 0);
-        due("the last minute", x.count(0), 99999);
-        due("go(1) above", x.go(1), STATE);
-        due("frosts(1) above", x.frosts(1), STATE);
-        due("go(61)", x.go(61), BEYOND);
-        x.says(1, 0);
-        due("what will be goes on", x.ahead(0, 100), 15);
-        due("minute", x.now(0), 99999);
     }
 
     private static void odds() {

@@ -341,6 +341,7 @@ public final class TextsEdgesTest extends Edges {
         test("Terms 3: a TOKEN as long as can be, WORDS", x -> {
             fault("lielie", 0);
             fault("liea", 0);
+            fault("liez", 0);
             fault("li", 0);
             fault("lieat 3", 0);
             fault("lie att 3", 4);
@@ -357,6 +358,9 @@ public final class TextsEdgesTest extends Edges {
             fault("lie{", 3);
             fault("Lie", 0);
             fault("liE", 0);
+            fault("lieE", 3);
+            fault("lieA", 3);
+            fault("lieZ", 3);
             fault("lie\u00e9", 3);
             fault("lie\u00ec", 3);
             fault("lizz", 0);
