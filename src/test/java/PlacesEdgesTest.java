@@ -57,6 +57,14 @@ public final class PlacesEdgesTest extends Edges {
             x.build(0, HEIGHT, 93);
             due("steep 9, speed 1: at 1", x.goesBy(0), 3);
         });
+        test("20 goesBy: corner 0 as any other, where a MINUTE ends at it", x -> {
+            way(x, 4, 66, 0);
+            way(x, 0, 60, 9);
+            x.says(WHISPER, 4);
+            due("goesBy(0)", x.goesBy(0), 1 | 1 << 4 | 65535 - 511);
+            due("by 0 and 4", x.where(0, 17, 0), 1);
+            due("not by 0", x.places(0, 0, 1), 16 - 5);
+        });
         test("20 goesBy: nothing changes", x -> changesNothing(65535 - 1023, y -> y.goesBy(1)));
         test("20 goesBy: of none where there is none", x -> due("goesBy(0)", x.goesBy(0), BEYOND));
     }
@@ -189,6 +197,13 @@ public final class PlacesEdgesTest extends Edges {
             due("behind 40", x.weightFor(0, 15, 40), 35);
             due("behind 14", x.weightFor(0, 15, 14), NONE);
             due("at 14 behind 14", x.weightFor(0, 14, 14), 36);
+        });
+        test("23 weightFor: by way of corner 0, where a MINUTE ends at it", x -> {
+            way(x, 4, 66, 0);
+            way(x, 0, 60, 9);
+            put(x, WHISPER, 4, 700);
+            due("at 0 behind 1", x.weightFor(0, 0, 1), 49);
+            due("at 11 behind 2", x.weightFor(0, 11, 2), 46);
         });
         test("23 weightFor: the least of those with which it is neither too slow nor too fast", x -> {
             put(x, SLANDER, 3, 1);
@@ -473,6 +488,11 @@ public final class PlacesEdgesTest extends Edges {
         });
     }
 
+    private static void way(DownhillWhispers x, int corner, int height, int gutter) {
+        x.build(corner, HEIGHT, height);
+        x.build(corner, GUTTER, gutter);
+    }
+
     private static void said() {
         test("28 said: a sheet, 0 to 3", x -> {
             bounds(0, 3, y -> y.sheet(3, 8, 0), (y, v) -> y.said(v, 5));
@@ -505,6 +525,37 @@ public final class PlacesEdgesTest extends Edges {
             due("a RUMOUR from 14", x.said(0, 100), 2 * 16 + 14);
             sheet(x, 0, 16, 0, 0, 0, 0, 0, 0, 0, 100);
             due("a LIE from 0", x.said(0, 100), 16);
+        });
+        test("28 said: each KIND is told where it is the first such", x -> {
+            sheet(x, 0, 16, 104);
+            due("a SLANDER from 14", x.said(0, 100), 16 * SLANDER + 14);
+            sheet(x, 0, 16, 105);
+            due("a SCANDAL from 14", x.said(0, 100), 16 * SCANDAL + 14);
+            sheet(x, 0, 16, 0, 0, 0, 0, 0, 0, 0, 0, 0, 0, 0, 0, 0, 0, 100);
+            due("a SECRET from 0", x.said(0, 100), 16 * SECRET);
+        });
+        test("28 said: the last KIND is told, where a FIB alone ends its MINUTE at THE HARBOUR", x -> {
+            way(x, 14, 60, 13);
+            way(x, 13, 55, 12);
+            way(x, 12, 50, 11);
+            way(x, 11, 38, 15);
+            way(x, 15, 30, 10);
+            way(x, 10, 25, 10);
+            x.build(12, SAND, 1);
+            x.build(11, SAND, 1);
+            sheet(x, 0, 16, 50);
+            due("fits(0, 50)", x.fits(0, 50), 1);
+            due("said(0, 50)", x.said(0, 50), 16 * FIB + 14);
+        });
+        test("28 said: NONE, behind the last KIND there is none that rolls as a WHISPER and gathers nothing", x -> {
+            way(x, 0, 39, 15);
+            way(x, 15, 30, 10);
+            way(x, 10, 25, 10);
+            x.build(0, SAND, 1);
+            x.build(14, GUTTER, 10);
+            sheet(x, 0, 16, 50);
+            due("fits(0, 50)", x.fits(0, 50), 0);
+            due("said(0, 50)", x.said(0, 50), NONE);
         });
         test("28 said: NONE, no pair does", x -> {
             refused(NONE, y -> y.said(0, 1));
